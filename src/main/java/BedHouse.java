@@ -873,10 +873,11 @@ public final class BedHouse {
             for (int home = 0; home < HOUSES; home++) {
                 lawful[home] = 0;
             }
-            int step = plan.panels == 0 ? HOUSES : unitOf(plan.panels - 1);
-            for (int home = 0; home < HOUSES; home += step) {
-                if (plan.allows(home)) {
-                    lawful[home] = 1;
+            // The houses are those numbers whose digits are 0 behind the last PANEL's.
+            int unit = plan.panels == 0 ? HOUSES : unitOf(plan.panels - 1);
+            for (int i = 0; i < HOUSES && i * unit < HOUSES; i++) {
+                if (plan.allows(i * unit)) {
+                    lawful[i * unit] = 1;
                 }
             }
             surveyed = true;

@@ -117,13 +117,20 @@ public final class ActsTest {
 
     /** It takes more calls than are promised, so it shows only that the class keeps the day's bound too. */
     private static void lastDay() {
-        BedHouse x = Due.told("rain 0 1;");
-        for (int day = 0; day < 999; day++) {
-            DUE.is("night of day " + day, 1, x.night());
+        BedHouse x = Due.told("rain 0 1;wall 0;wall 2;hands 1;");
+        x.keep(0);
+        for (int day = 0; day < 998; day++) {
+            DUE.is("night of day " + day, 0, x.night());
         }
+        x.down(1);
+        DUE.is("nights by day 999", 1, x.nights(0));
+        DUE.is("night of day 998", 0, x.night());
+        DUE.is("nights on day 999, one act left", 0, x.nights(0));
+        x.up(1, 4);
+        DUE.is("nights on day 999, no act left", -9, x.nights(0));
         DUE.is("night of day 999", -2, x.night());
         DUE.is("day", 999, x.now(0));
-        DUE.is("leaks", 999, x.now(2));
+        DUE.is("leaks", 0, x.now(2));
     }
 
     private static void leaks() {

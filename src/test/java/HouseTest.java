@@ -12,6 +12,7 @@ public final class HouseTest {
         faultsOfTokens();
         faultsChangeNothing();
         readAnew();
+        readAnewAndAgain();
         panels();
         slots();
         toldThings();
@@ -183,6 +184,13 @@ public final class HouseTest {
         fault(0, "wAll 1;");
         fault(1, " WALL 1;");
         fault(0, "door 1;");
+        fault(0, "ball 1;");
+        fault(0, "wallz 1;");
+        fault(0, "awall 1;");
+        fault(4, "wall`1;");
+        fault(4, "wall{1;");
+        fault(6, "wall 1/;");
+        fault(6, "wall 1:;");
         fault(2, "  wal");
         fault(5, "wall wall 1;");
         fault(5, "wall ;");
@@ -268,6 +276,25 @@ public final class HouseTest {
         DUE.is("acts", 1, x.now(1));
         x.house();
         DUE.is("acts anew", 0, x.now(1));
+    }
+
+    private static void readAnewAndAgain() {
+        BedHouse x = Due.told("curtain 3;glass 4;sun 0 8;");
+        x.clue(0, 1);
+        x.clue(3, 0);
+        DUE.is("fit of the first", 8, x.fit());
+        Due.tell(x, "curtain 5;sun 0 8;");
+        DUE.is("place in the second", 5, x.panel(0, 1));
+        DUE.is("fit of the second, with no clues", 9, x.fit());
+        Due.tell(x, "curtain 6;wall 7;sun 0 8;beam 7 1;");
+        DUE.is("place in the third", 6, x.panel(0, 1));
+        DUE.is("place in the third", 7, x.panel(1, 1));
+        DUE.is("fit of the third", 8, x.fit());
+        DUE.is("best of the third", 21, x.best(-1));
+        DUE.is("piano in the third", -9, x.piano(6));
+        Due.tell(x, "wall 8;wall 8;down 0;");
+        DUE.is("fit of the fourth", 56, x.fit());
+        DUE.is("best of the fourth", 1, x.best(1));
     }
 
     private static void panels() {

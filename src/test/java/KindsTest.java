@@ -111,6 +111,12 @@ public final class KindsTest {
         DUE.is("fit of image 1", 7, x.fit());
         DUE.is("an act in image 1", 0, x.up(0, 0));
         DUE.is("an image has no text", 4, x.count(4));
+        x.clue(6, 1);
+        DUE.is("back(1), two clues as kept", 1, x.back(1));
+        DUE.is("fit of image 1 again", 7, x.fit());
+        x.forget();
+        DUE.is("back(1), clues come again", 1, x.back(1));
+        DUE.is("fit of image 1 once more", 7, x.fit());
         DUE.is("what is done behind keep is not kept", 1, x.back(1));
         DUE.is("place", 8, x.panel(0, 1));
     }

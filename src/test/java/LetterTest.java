@@ -10,6 +10,7 @@ public final class LetterTest {
         noneFits();
         allLawful();
         nowIsNotAsked();
+        sureOfTwo();
         DUE.close();
     }
 
@@ -101,6 +102,14 @@ public final class LetterTest {
         DUE.is("two beams, one wall", 1, Due.told("wall 8;beam 6 3;beam 0 2;").fit());
         DUE.is("two beams apart, two walls", 8, Due.told("wall 8;wall 8;beam 0 2;beam 4 2;").fit());
         DUE.is("glass bears none", 0, Due.told("glass 8;beam 0 8;").fit());
+    }
+
+    private static void sureOfTwo() {
+        BedHouse x = Due.told("wall 8;beam 0 2;down 0;");
+        DUE.is("fit", 2, x.fit());
+        DUE.is("in 0 or in 1", -9, x.sure(0));
+        BedHouse y = Due.told("wall 8;beam 0 1;");
+        DUE.is("in 0", 0, y.sure(0));
     }
 
     private static void nowIsNotAsked() {

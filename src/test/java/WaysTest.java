@@ -5,6 +5,7 @@ public final class WaysTest {
     public static void main(String[] args) {
         refused();
         itIsThat();
+        eachAskedFirst();
         swapWithOneThatMayLie();
         swapWithTwoThatMayLie();
         firstBySlots();
@@ -50,6 +51,19 @@ public final class WaysTest {
         x.night();
         x.up(0, 0);
         ways("all acts are done", x, 0, 0, -9, 0);
+    }
+
+    private static void eachAskedFirst() {
+        for (int asked = 0; asked < 3; asked++) {
+            BedHouse x = Due.told("wall 7;hands 1;");
+            x.keep(0);
+            x.down(0);
+            int got = asked == 0 ? x.fewest(0) : asked == 1 ? x.first(0) : x.nights(0);
+            DUE.is("asked first: " + asked, asked == 1 ? 7 : 1, got);
+            Due.tell(x, "glass 2;hands 1;beam 2 1;");
+            x.keep(0);
+            DUE.is("asked anew", -9, x.piano(1));
+        }
     }
 
     private static BedHouse swapped(String more) {
