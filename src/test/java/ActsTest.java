@@ -12,6 +12,14 @@ public final class ActsTest {
         leaks();
         worth();
         lit();
+        asManyAsMayLie();
+        lawfulAtItsBounds();
+        upIntoEachSlot();
+        refusedActsAreNotCounted();
+        actsOfADayAndTheNext();
+        leaksOfAllSlots();
+        worthAtItsBounds();
+        nowRefused();
         DUE.close();
     }
 
@@ -129,7 +137,14 @@ public final class ActsTest {
         x.up(1, 4);
         DUE.is("nights on day 999, no act left", -9, x.nights(0));
         DUE.is("night of day 999", -2, x.night());
+        DUE.is("night of day 999 again", -2, x.night());
         DUE.is("day", 999, x.now(0));
+        DUE.is("acts", 1, x.now(1));
+        DUE.is("no act is left", -2, x.down(1));
+        DUE.is("keep", 999, x.keep(1));
+        DUE.is("back", 0, x.back(0));
+        DUE.is("a night of day 0 may be", 0, x.night());
+        DUE.is("back to day 999", 999, x.back(1));
         DUE.is("leaks", 0, x.now(2));
     }
 
@@ -193,5 +208,131 @@ public final class ActsTest {
         DUE.is("lit(7)", 1, y.lit(7));
         DUE.is("lit(0)", 1, y.lit(0));
         DUE.is("glass without sun", 0, y.lit(5));
+    }
+
+    private static void asManyAsMayLie() {
+        for (int most = 0; most <= 4; most++) {
+            BedHouse x = Due.told("wall 0;glass 1;curtain 2;rotten 3;hands 9;down " + most + ";");
+            for (int p = 0; p < 4; p++) {
+                DUE.is("down(" + p + "), " + most + " may lie", p < most ? p + 1 : -2, x.down(p));
+            }
+            DUE.is("lying", most, x.count(2));
+            DUE.is("acts", most, x.now(1));
+            DUE.is("lawful", 1, x.now(4));
+        }
+        BedHouse x = Due.told("wall 0;glass 1;curtain 2;rotten 3;hands 9;");
+        for (int p = 0; p < 4; p++) {
+            DUE.is("down(" + p + "), no DOWN told", p < 3 ? p + 1 : -2, x.down(p));
+        }
+        DUE.is("up again", 2, x.up(1, 1));
+        DUE.is("now the last may lie", 3, x.down(3));
+    }
+
+    private static void lawfulAtItsBounds() {
+        for (int lie = 0; lie <= 4; lie++) {
+            for (int most = 0; most <= 4; most++) {
+                BedHouse x = Due.told("wall 8;".repeat(lie) + "down " + most + ";");
+                DUE.is(lie + " lie, " + most + " may", lie <= most ? 1 : 0, x.now(4));
+            }
+            DUE.is(lie + " lie", lie <= 3 ? 1 : 0, Due.told("wall 8;".repeat(lie)).now(4));
+        }
+        DUE.is("one beam of two is borne", 0, Due.told("wall 0;beam 0 1;beam 1 1;").now(4));
+        DUE.is("the other one is", 0, Due.told("wall 1;beam 0 1;beam 1 1;").now(4));
+        DUE.is("both are", 1, Due.told("wall 1;beam 0 2;beam 1 1;").now(4));
+        DUE.is("a beam without panels", 0, Due.told("beam 0 8;").now(4));
+        DUE.is("borne, but too many lie", 0, Due.told("wall 1;wall 8;beam 1 1;down 0;").now(4));
+    }
+
+    private static void upIntoEachSlot() {
+        for (int k = 0; k < 8; k++) {
+            BedHouse x = Due.told("curtain 8;hands 9;");
+            DUE.is("up(0, " + k + ")", 0, x.up(0, k));
+            DUE.is("place", k, x.panel(0, 1));
+            DUE.is("slot", 0, x.slot(k, 0));
+            DUE.is("down(0)", 1, x.down(0));
+            DUE.is("slot", -9, x.slot(k, 0));
+            DUE.is("the same slot again", 0, x.up(0, k));
+            DUE.is("acts", 3, x.now(1));
+        }
+    }
+
+    private static void refusedActsAreNotCounted() {
+        BedHouse x = Due.told("wall 0;glass 1;hands 1;beam 0 1;");
+        for (int i = 0; i < 5; i++) {
+            DUE.is("a wall that bears", -2, x.down(0));
+            DUE.is("it stands", -2, x.up(0, 3));
+            DUE.is("no such slot", -1, x.up(0, 8));
+            DUE.is("acts", 0, x.now(1));
+        }
+        DUE.is("the one act", 1, x.down(1));
+        DUE.is("it is done", -2, x.up(1, 1));
+        DUE.is("acts", 1, x.now(1));
+    }
+
+    private static void actsOfADayAndTheNext() {
+        for (int hands = 1; hands <= 9; hands++) {
+            BedHouse x = Due.told("wall 0;hands " + hands + ";");
+            for (int day = 0; day < 3; day++) {
+                for (int act = 1; act <= hands + 1; act++) {
+                    boolean stands = x.panel(0, 1) < 8;
+                    int due = act > hands ? -2 : stands ? 1 : 0;
+                    DUE.is("act " + act + " of " + hands, due, stands ? x.down(0) : x.up(0, act % 8));
+                    DUE.is("acts", Math.min(act, hands), x.now(1));
+                }
+                DUE.is("day", day, x.now(0));
+                DUE.is("night", 0, x.night());
+            }
+            x.night();
+            DUE.is("a day without acts is a day too", 4, x.now(0));
+            DUE.is("acts left are not kept for later", 0, x.now(1));
+        }
+    }
+
+    private static void leaksOfAllSlots() {
+        String[] texts = {"", "glass 7;", "glass 7;wall 0;", "glass 7;wall 0;wall 3;", "glass 7;wall 0;wall 3;glass 4;"};
+        for (int shelters = 0; shelters <= 4; shelters++) {
+            BedHouse x = Due.told(texts[shelters] + "rain 3 8;");
+            int leaks = 0;
+            for (int night = 1; night <= 12; night++) {
+                DUE.is("leaks there would be", 8 - shelters, x.now(5));
+                DUE.is("night", 8 - shelters, x.night());
+                leaks += 8 - shelters;
+                DUE.is("leaks in all", leaks, x.now(2));
+                DUE.is("day", night, x.now(0));
+            }
+        }
+        BedHouse dry = Due.told("wall 7;glass 0;rain 7 2;");
+        DUE.is("none", 0, dry.night());
+        DUE.is("none in all", 0, dry.now(2));
+    }
+
+    private static void worthAtItsBounds() {
+        worthOf(8 * 3 + 5 + 2, "sun 0 8;view 0;noise 1;glass 1;");
+        worthOf(8 * 3 + 5 + 2, "sun 0 8;view 1;noise 1;glass 1;");
+        worthOf(7 * 3 + 5 + 4, "sun 0 8;view 0;noise 7;wall 7;");
+        worthOf(7 * 3 + 4, "sun 0 8;view 7;noise 7;wall 7;");
+        worthOf(7 * 3 + 2, "sun 0 8;view 7;noise 7;curtain 7;");
+        worthOf(-16, "rain 0 8;noise 0;wall 8;curtain 3;rotten 4;");
+        worthOf(-16 + 2, "rain 0 8;noise 0;rotten 0;");
+        worthOf(-14 + 2, "rain 0 8;noise 0;glass 0;");
+        worthOf(0, "");
+        for (int k = 0; k < 8; k++) {
+            worthOf(5, "view " + k + ";wall " + (k + 1) % 8 + ";");
+            worthOf(0, "view " + k + ";wall " + k + ";");
+            worthOf(4, "noise " + k + ";wall " + k + ";");
+            worthOf(0, "noise " + k + ";wall " + (k + 7) % 8 + ";");
+            worthOf(3, "sun " + k + " 1;rotten " + (k + 7) % 8 + ";");
+            worthOf(0, "sun " + k + " 1;rotten " + k + ";");
+            worthOf(-2, "rain " + k + " 1;glass " + (k + 1) % 8 + ";");
+            worthOf(0, "rain " + k + " 1;glass " + k + ";");
+        }
+    }
+
+    private static void nowRefused() {
+        BedHouse x = Due.told("wall 0;");
+        int[] none = {-1, 6, 7, Integer.MIN_VALUE, Integer.MAX_VALUE};
+        for (int what : none) {
+            DUE.is("now(" + what + ")", -1000000, x.now(what));
+        }
     }
 }

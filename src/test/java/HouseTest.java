@@ -17,6 +17,11 @@ public final class HouseTest {
         slots();
         toldThings();
         beams();
+        newObjectRefuses();
+        fourPanels();
+        lyingIsInNoSlot();
+        twoBeams();
+        noItems();
         DUE.close();
     }
 
@@ -354,5 +359,105 @@ public final class HouseTest {
         DUE.is("a wall that lies bears none", 0, Due.told("wall 8;beam 0 8;").beam(0));
         DUE.is("beam of 8 from 5", 1, Due.told("wall 4;beam 5 8;").beam(0));
         DUE.is("beam of 7 from 5", 0, Due.told("wall 4;beam 5 7;").beam(0));
+    }
+
+    private static void newObjectRefuses() {
+        BedHouse x = new BedHouse();
+        DUE.is("new panel(0, 0)", -1, x.panel(0, 0));
+        DUE.is("new beam(0)", -1, x.beam(0));
+        DUE.is("new down(0)", -1, x.down(0));
+        DUE.is("new up(0, 0)", -1, x.up(0, 0));
+        DUE.is("new sure(0)", -1, x.sure(0));
+        DUE.is("new best(0)", -1000000, x.best(0));
+        DUE.is("new mark(0, 0)", -1000000, x.mark(0, 0));
+        for (int image = 0; image < 2; image++) {
+            DUE.is("new back", -2, x.back(image));
+            DUE.is("new fewest", -2, x.fewest(image));
+            DUE.is("new first", -2, x.first(image));
+            DUE.is("new nights", -2, x.nights(image));
+        }
+        DUE.is("new clear()", 0, x.clear());
+        DUE.is("new forget()", 0, x.forget());
+        DUE.is("new night()", 0, x.night());
+        DUE.is("day behind it", 1, x.now(0));
+        DUE.is("keep(1)", 1, x.keep(1));
+        DUE.is("back(1)", 1, x.back(1));
+        DUE.is("clue(0, 0)", 1, x.clue(0, 0));
+        DUE.is("fit", 1, x.fit());
+        DUE.is("clue(0, 1)", 2, x.clue(0, 1));
+        DUE.is("fit", 0, x.fit());
+        DUE.is("house() of no text", 0, x.house());
+        DUE.is("day anew", 0, x.now(0));
+        DUE.is("image gone", -2, x.back(1));
+        DUE.is("fit anew", 1, x.fit());
+        BedHouse other = new BedHouse();
+        Due.tell(x, "wall 0;");
+        DUE.is("another object is another house", 0, other.count(0));
+    }
+
+    private static void fourPanels() {
+        BedHouse x = Due.told("rotten 0;curtain 7;glass 8;wall 3;");
+        int[] sorts = {3, 2, 1, 0};
+        int[] places = {0, 7, 8, 3};
+        for (int p = 0; p < 4; p++) {
+            DUE.is("panel(" + p + ", 0)", sorts[p], x.panel(p, 0));
+            DUE.is("panel(" + p + ", 1)", places[p], x.panel(p, 1));
+            DUE.is("panel(" + p + ", 2)", -1, x.panel(p, 2));
+        }
+        DUE.is("panel(4, 0)", -1, x.panel(4, 0));
+        DUE.is("panel(4, 1)", -1, x.panel(4, 1));
+        for (int panels = 0; panels <= 4; panels++) {
+            BedHouse y = Due.told("wall 8;".repeat(panels));
+            DUE.is("panels", panels, y.count(0));
+            for (int p = 0; p < 5; p++) {
+                DUE.is("panel " + p + " of " + panels, p < panels ? 8 : -1, y.panel(p, 1));
+            }
+        }
+    }
+
+    private static void lyingIsInNoSlot() {
+        BedHouse x = Due.told("wall 8;glass 8;curtain 8;rotten 8;");
+        for (int k = 0; k < 8; k++) {
+            DUE.is("slot(" + k + ", 0)", -9, x.slot(k, 0));
+        }
+        for (int k = 0; k < 8; k++) {
+            BedHouse y = Due.told("glass 8;rotten " + k + ";");
+            for (int other = 0; other < 8; other++) {
+                DUE.is("slot(" + other + ", 0) of " + k, other == k ? 1 : -9, y.slot(other, 0));
+            }
+        }
+    }
+
+    private static void twoBeams() {
+        for (int beams = 0; beams <= 2; beams++) {
+            BedHouse x = Due.told("beam 0 8;".repeat(beams) + "wall 4;");
+            DUE.is("beams", beams, x.count(1));
+            for (int k = 0; k <= 2; k++) {
+                DUE.is("beam(" + k + ") of " + beams, k < beams ? 1 : -1, x.beam(k));
+            }
+            DUE.is("beam(least)", -1, x.beam(Integer.MIN_VALUE));
+            DUE.is("beam(greatest)", -1, x.beam(Integer.MAX_VALUE));
+        }
+    }
+
+    private static void noItems() {
+        String[] texts = {"", " ", "        "};
+        for (String text : texts) {
+            BedHouse x = Due.told("wall 2;beam 2 1;rain 5 1;sun 6 1;view 4;noise 3;down 1;hands 7;");
+            x.keep(0);
+            DUE.is("house of '" + text + "'", 0, Due.tell(x, text));
+            DUE.is("text", 0, x.count(4));
+            DUE.is("panels", 0, x.count(0));
+            DUE.is("beams", 0, x.count(1));
+            DUE.is("rain", 0, x.slot(5, 1));
+            DUE.is("sun", 0, x.slot(6, 2));
+            int[] told = {-9, -9, 3, 2, -1};
+            for (int what = 0; what < 5; what++) {
+                DUE.is("told(" + what + ")", told[what], x.told(what));
+            }
+            DUE.is("told(least)", -1, x.told(Integer.MIN_VALUE));
+            DUE.is("told(greatest)", -1, x.told(Integer.MAX_VALUE));
+            DUE.is("image", -2, x.back(0));
+        }
     }
 }

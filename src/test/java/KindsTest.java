@@ -10,6 +10,11 @@ public final class KindsTest {
         imagesKeepCluesAndActs();
         imagesRefused();
         counts();
+        marksAtTheirBounds();
+        traceOfEachKind();
+        imagesReadAnew();
+        imagesKeptAgain();
+        countsAtTheirBounds();
         DUE.close();
     }
 
@@ -147,5 +152,107 @@ public final class KindsTest {
         DUE.is("count(-1)", -1, x.count(-1));
         DUE.is("count(least)", -1, x.count(Integer.MIN_VALUE));
         DUE.is("count(greatest)", -1, x.count(Integer.MAX_VALUE));
+    }
+
+    private static void marksAtTheirBounds() {
+        String[] sorts = {"wall", "glass", "curtain", "rotten"};
+        for (int sort = 0; sort < 4; sort++) {
+            for (int place = 0; place <= 8; place++) {
+                for (int p = 0; p < 4; p++) {
+                    String lying = "wall 8;wall 8;wall 8;";
+                    BedHouse x = Due.told(lying.substring(0, 7 * p) + sorts[sort] + " " + place + ";");
+                    int lie = p + (place == 8 ? 1 : 0);
+                    String of = " of a " + sorts[sort] + " in " + place;
+                    DUE.is("mark(0)" + of, place, x.mark(0, p));
+                    DUE.is("mark(1)" + of, place * 2, x.mark(1, p));
+                    DUE.is("mark(2)" + of, place + sort, x.mark(2, p));
+                    DUE.is("mark(3)" + of, place * 2, x.mark(3, p));
+                    DUE.is("mark(4)" + of, place + sort + lie, x.mark(4, p));
+                    DUE.is("mark(5)" + of, place - p, x.mark(5, p));
+                    x.night();
+                    DUE.is("mark(3) a day later" + of, place * 2 + 1, x.mark(3, p));
+                    DUE.is("mark(0, " + (p + 1) + ")", -1000000, x.mark(0, p + 1));
+                }
+            }
+        }
+    }
+
+    private static void traceOfEachKind() {
+        int[] traces = {1, 11, 101, 1011, 10101, 100001};
+        for (int kind = 0; kind < 6; kind++) {
+            BedHouse x = Due.told("wall 8;");
+            DUE.is("trace at first", 0, x.trace());
+            for (int i = 1; i <= 20; i++) {
+                x.mark(kind, 0);
+                DUE.is("trace of " + i + " marks", (long) i * traces[kind], x.trace());
+            }
+            x.mark(6, 0);
+            x.mark(-1, 0);
+            x.mark(kind, 1);
+            DUE.is("trace behind BAD", 20L * traces[kind], x.trace());
+            x.trace();
+            x.clear();
+            x.house();
+            DUE.is("trace stays, read anew", 20L * traces[kind], x.trace());
+            Due.tell(x, "wall");
+            DUE.is("trace stays behind a fault", 20L * traces[kind], x.trace());
+        }
+    }
+
+    private static void imagesReadAnew() {
+        BedHouse x = Due.told("wall 5;");
+        x.keep(0);
+        x.keep(1);
+        DUE.is("a faulty text", -14, Due.tell(x, "wall"));
+        DUE.is("the images stay", 0, x.back(0));
+        DUE.is("the images stay", 0, x.back(1));
+        x.clear();
+        DUE.is("a text", 1, Due.tell(x, "wall 5;"));
+        DUE.is("image 0 is gone", -2, x.back(0));
+        DUE.is("image 1 is gone", -2, x.back(1));
+        x.night();
+        DUE.is("image 1 anew", 1, x.keep(1));
+        DUE.is("image 0 still gone", -2, x.back(0));
+        DUE.is("image 1", 1, x.back(1));
+    }
+
+    private static void imagesKeptAgain() {
+        BedHouse x = Due.told("wall 5;rain 0 2;sun 0 8;");
+        for (int day = 0; day < 5; day++) {
+            DUE.is("keep(0) on day " + day, day, x.keep(0));
+            x.clue(day, 1);
+            x.down(0);
+            DUE.is("keep(1) on day " + day, day, x.keep(1));
+            DUE.is("back(0)", day, x.back(0));
+            DUE.is("place", 5, x.panel(0, 1));
+            DUE.is("acts", 0, x.now(1));
+            DUE.is("clues", 0, x.count(3));
+            DUE.is("leaks", 2 * day, x.now(2));
+            DUE.is("back(1)", day, x.back(1));
+            DUE.is("place", 8, x.panel(0, 1));
+            DUE.is("acts", 1, x.now(1));
+            DUE.is("clues", 1, x.count(3));
+            DUE.is("back(1) again", day, x.back(1));
+            DUE.is("back(0) again", day, x.back(0));
+            x.night();
+        }
+        DUE.is("what is told is not of an image", 2, x.told(3));
+    }
+
+    private static void countsAtTheirBounds() {
+        BedHouse x = Due.told("wall 8;wall 8;wall 8;wall 8;beam 0 1;beam 0 1;");
+        for (int i = 0; i < 8; i++) {
+            x.clue(i, 0);
+        }
+        Due.write(x, " ".repeat(200));
+        int[] most = {4, 2, 4, 8, 200};
+        for (int what = 0; what < 5; what++) {
+            DUE.is("the most of count(" + what + ")", most[what], x.count(what));
+        }
+        x.forget();
+        x.house();
+        for (int what = 0; what < 5; what++) {
+            DUE.is("the least of count(" + what + ")", 0, x.count(what));
+        }
     }
 }

@@ -11,6 +11,10 @@ public final class LetterTest {
         allLawful();
         nowIsNotAsked();
         sureOfTwo();
+        eachHour();
+        sureOfEachPlace();
+        cluesAtTheirBound();
+        fullChangesNothing();
         DUE.close();
     }
 
@@ -118,5 +122,77 @@ public final class LetterTest {
         DUE.is("fit", 42, x.fit());
         DUE.is("sure", 0, x.sure(0));
         DUE.is("sure", -9, x.sure(1));
+    }
+
+    private static void eachHour() {
+        for (int hour = 0; hour < 8; hour++) {
+            BedHouse x = Due.told("curtain 0;sun 0 8;");
+            DUE.is("clue(" + hour + ", 1)", 1, x.clue(hour, 1));
+            DUE.is("lit at " + hour, 8, x.fit());
+            DUE.is("forget", 1, x.forget());
+            DUE.is("clue(" + hour + ", 0)", 1, x.clue(hour, 0));
+            DUE.is("dark at " + hour, 1, x.fit());
+            DUE.is("sure", hour, x.sure(0));
+            DUE.is("clue of another hour", 2, x.clue((hour + 1) % 8, 0));
+            DUE.is("dark at both", 0, x.fit());
+            DUE.is("none fits", -9, x.sure(0));
+        }
+    }
+
+    private static void sureOfEachPlace() {
+        for (int k = 0; k < 8; k++) {
+            BedHouse x = Due.told("glass 8;wall 8;glass 8;wall 8;beam " + k + " 1;sun 0 8;");
+            x.clue((k + 3) % 8, 0);
+            // The one wall bears in k, the other one is where it was dark.
+            DUE.is("which wall is which", -9, x.sure(1));
+            BedHouse y = Due.told("glass 8;curtain 8;wall 8;rotten 8;beam " + k + " 1;sun 0 8;");
+            DUE.is("panel 2 bears", k, y.sure(2));
+            DUE.is("panel 0 is anywhere", -9, y.sure(0));
+            for (int hour = 0; hour < 8; hour++) {
+                if (hour != k) {
+                    y.clue(hour, 1);
+                }
+            }
+            DUE.is("panel 1 lies", 8, y.sure(1));
+            DUE.is("panel 2 bears", k, y.sure(2));
+            DUE.is("panel 3 lies", 8, y.sure(3));
+            DUE.is("glass is anywhere", -9, y.sure(0));
+            DUE.is("sure(4)", -1, y.sure(4));
+            DUE.is("fit", 8, y.fit());
+        }
+    }
+
+    private static void cluesAtTheirBound() {
+        BedHouse x = Due.told("wall 0;sun 0 8;");
+        for (int round = 0; round < 3; round++) {
+            for (int i = 1; i <= 8; i++) {
+                DUE.is("clue " + i, i, x.clue(8 - i, 1));
+            }
+            DUE.is("a ninth of a told hour", -3, x.clue(0, 1));
+            DUE.is("a ninth that says the other", -3, x.clue(0, 0));
+            DUE.is("it lies", 8, x.sure(0));
+            DUE.is("forget all", 8, x.forget());
+            DUE.is("all fit", 9, x.fit());
+        }
+        for (int i = 1; i <= 8; i++) {
+            DUE.is("the same hour " + i, i, x.clue(4, 0));
+        }
+        DUE.is("it stood there", 4, x.sure(0));
+    }
+
+    private static void fullChangesNothing() {
+        BedHouse x = Due.told("wall 0;sun 0 8;");
+        for (int i = 0; i < 8; i++) {
+            x.clue(2, 0);
+        }
+        DUE.is("full", -3, x.clue(2, 1));
+        DUE.is("fit", 1, x.fit());
+        DUE.is("count", 8, x.count(3));
+        DUE.is("bad", -1, x.clue(2, 2));
+        DUE.is("fit", 1, x.fit());
+        x.forget();
+        DUE.is("bad", -1, x.clue(8, 1));
+        DUE.is("no clues", 0, x.count(3));
+        DUE.is("fit", 9, x.fit());
     }
 }

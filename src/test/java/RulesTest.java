@@ -38,6 +38,7 @@ public final class RulesTest {
             DUE.holds("the source has no " + pattern, !Pattern.compile(pattern).matcher(code).find());
         }
         methodLengths(code);
+        nothingIsMadeByCalls(code);
         DUE.close();
     }
 
@@ -113,6 +114,16 @@ public final class RulesTest {
             } else if (begin >= 0 && line.equals(end)) {
                 DUE.holds(lines[begin].trim() + " has some sixty lines at most", i - begin < 60);
                 begin = -1;
+            }
+        }
+    }
+
+    /** All that is ever made is made with the object, so 512 calls need no more room than none. */
+    private static void nothingIsMadeByCalls(String code) {
+        for (String line : code.split("\n")) {
+            if (line.matches(".*\\bnew\\b.*")) {
+                DUE.holds("made with the object: " + line.trim(),
+                    line.matches("\\s+private (final )?\\w+(\\[\\])? \\w+ = .*;"));
             }
         }
     }
