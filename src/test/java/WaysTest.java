@@ -312,7 +312,7 @@ public final class WaysTest {
         }
     }
 
-    /** Ways of 20 acts, an act a day: by a search over all texts of four panels none takes more nights. */
+    /** Ways of 20 acts, an act a day: by a search over all texts none takes more nights. */
     private static void twentyNights() {
         int[] panels = {2, 3, 3, 1, 1, 0, 0, 2, 2, 0, 0, 1, 1, 0, 0, 2, 2, 3, 3, 2};
         int[] places = {3, 8, 4, 8, 0, 8, 2, 8, 1, 8, 3, 8, 2, 8, 0, 8, 3, 8, 1, 8};
