@@ -239,12 +239,55 @@ public final class ModelTest {
         same("place", place, x.panel(p, 1));
     }
 
+    private static void anyCall() {
+        if (calls < 480 && oneIn(50)) {
+            writeText(oneIn(3) ? anyText() : goodText());
+        } else if (oneIn(8)) {
+            searchCall();
+        } else {
+            cheapCall();
+        }
+    }
+
+    /** As many calls as an object is promised for, the last one as right as the first. */
+    private static void wholeLives(int runs) {
+        for (int r = 0; r < runs; r++) {
+            begin("whole life " + r);
+            writeText(goodText());
+            while (calls < 512) {
+                anyCall();
+            }
+            DUE.is("calls of " + run, 512, calls);
+        }
+    }
+
+    /** Two objects that are asked by turns: what one does must not be seen in the other. */
+    private static void sideBySide(int runs) {
+        for (int r = 0; r < runs; r++) {
+            begin("side by side " + r);
+            writeText(goodText());
+            BedHouse otherX = new BedHouse();
+            Model otherM = new Model();
+            while (calls < 300) {
+                BedHouse thisX = x;
+                Model thisM = m;
+                x = otherX;
+                m = otherM;
+                otherX = thisX;
+                otherM = thisM;
+                anyCall();
+            }
+        }
+    }
+
     public static void main(String[] args) {
         seed = 20261120;
         texts(60);
         acts(250);
         walks(400);
         longWays();
+        wholeLives(40);
+        sideBySide(40);
         DUE.close();
     }
 }

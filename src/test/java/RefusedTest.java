@@ -1,5 +1,3 @@
-import java.util.ArrayList;
-import java.util.List;
 import java.util.function.ToIntFunction;
 
 /** All promises: each refused call by its word, of two reasons the first, and that it changes nothing. */
@@ -16,9 +14,9 @@ public final class RefusedTest {
 
     public static void main(String[] args) {
         badIn("a new object", BedHouse::new, 0);
-        badIn("a house", RefusedTest::house, 4);
-        badIn("a house where nothing may be done", RefusedTest::spent, 4);
-        badIn("a house with fewer panels", RefusedTest::twoPanels, 2);
+        badIn("a house", Houses::house, 4);
+        badIn("a house where nothing may be done", Houses::spent, 4);
+        badIn("a house with fewer panels", Houses::twoPanels, 2);
         stateOfActs();
         stateOfBeams();
         stateOfHands();
@@ -29,95 +27,12 @@ public final class RefusedTest {
         DUE.close();
     }
 
-    // ---- what can be seen of an object.
-
-    private static String look(BedHouse x) {
-        List<Long> seen = new ArrayList<>();
-        for (int k = 0; k < 8; k++) {
-            for (int what = 0; what < 3; what++) {
-                seen.add((long) x.slot(k, what));
-            }
-            seen.add((long) x.lit(k));
-        }
-        for (int what = 0; what < 6; what++) {
-            seen.add((long) x.now(what));
-            seen.add((long) x.told(what));
-            seen.add((long) x.count(what));
-        }
-        for (int p = 0; p < 4; p++) {
-            seen.add((long) x.panel(p, 0));
-            seen.add((long) x.panel(p, 1));
-            seen.add((long) x.sure(p));
-            seen.add((long) x.best(p));
-        }
-        seen.add((long) x.beam(0));
-        seen.add((long) x.beam(1));
-        seen.add((long) x.best(-1));
-        seen.add((long) x.piano(3));
-        seen.add((long) x.fit());
-        seen.add(x.trace());
-        for (int image = 0; image < 2; image++) {
-            seen.add((long) x.fewest(image));
-            seen.add((long) x.first(image));
-            seen.add((long) x.nights(image));
-        }
-        return seen.toString();
-    }
-
-    /** What is seen now, in the images, and of THE TEXT once it is told; the object is used up then. */
-    private static String lookAtAll(BedHouse x) {
-        StringBuilder seen = new StringBuilder(look(x));
-        for (int image = 0; image < 2; image++) {
-            seen.append(x.back(image)).append(look(x));
-        }
-        seen.append(x.house()).append(look(x)).append(x.forget()).append(x.clear());
-        return seen.toString();
-    }
-
     private static void refused(String where, Maker maker, String call, int word, ToIntFunction<BedHouse> asked) {
         BedHouse x = maker.make();
         DUE.is(call + " in " + where, word, asked.applyAsInt(x));
-        String seen = lookAtAll(x);
-        String due = lookAtAll(maker.make());
+        String seen = Look.all(x);
+        String due = Look.all(maker.make());
         DUE.holds(call + " changes nothing in " + where + ":\n" + due + "\n" + seen, due.equals(seen));
-    }
-
-    // ---- the houses.
-
-    /** Four panels, one lies, one act is left, clues, both images, a text that could be told. */
-    private static BedHouse house() {
-        BedHouse x = Due.told("wall 0;glass 2;curtain 5;rotten 7;"
-            + "beam 7 2;beam 0 3;rain 2 3;sun 1 7;view 2;noise 0;down 2;hands 2;");
-        x.keep(1);
-        x.clue(3, 1);
-        x.clue(5, 0);
-        x.mark(4, 1);
-        x.down(3);
-        x.night();
-        x.keep(0);
-        x.down(2);
-        Due.write(x, "wall 4;");
-        return x;
-    }
-
-    /** No act is left, as many lie as may, THE TEXT and the clues are full, no image is kept, no beam may go. */
-    private static BedHouse spent() {
-        BedHouse x = Due.told("wall 0;glass 2;curtain 5;rotten 7;beam 7 2;sun 0 8;rain 0 1;down 1;hands 1;");
-        x.down(3);
-        for (int i = 0; i < 8; i++) {
-            x.clue(i, i == 0 || i == 5 ? 0 : 1);
-        }
-        Due.write(x, "sun 1 1;".repeat(25));
-        return x;
-    }
-
-    private static BedHouse twoPanels() {
-        BedHouse x = Due.told("rotten 3;wall 8;hands 1;beam 0 8;");
-        x.keep(1);
-        x.up(1, 6);
-        x.clue(3, 1);
-        Due.write(x, "glass 2;");
-        return x;
     }
 
     // ---- BAD, which comes ahead of all else.
@@ -218,18 +133,18 @@ public final class RefusedTest {
     private static void stateOfActs() {
         // Panels 2 and 3 lie, 0 bears the beams, 1 stands in slot 2; one act is left.
         String where = "a house with one act left";
-        refused(where, RefusedTest::house, "down(2)", STATE, x -> x.down(2));
-        refused(where, RefusedTest::house, "down(3)", STATE, x -> x.down(3));
-        refused(where, RefusedTest::house, "down(0)", STATE, x -> x.down(0));
-        refused(where, RefusedTest::house, "down(1)", STATE, x -> x.down(1));
-        refused(where, RefusedTest::house, "up(2, 0)", STATE, x -> x.up(2, 0));
-        refused(where, RefusedTest::house, "up(3, 2)", STATE, x -> x.up(3, 2));
+        refused(where, Houses::house, "down(2)", STATE, x -> x.down(2));
+        refused(where, Houses::house, "down(3)", STATE, x -> x.down(3));
+        refused(where, Houses::house, "down(0)", STATE, x -> x.down(0));
+        refused(where, Houses::house, "down(1)", STATE, x -> x.down(1));
+        refused(where, Houses::house, "up(2, 0)", STATE, x -> x.up(2, 0));
+        refused(where, Houses::house, "up(3, 2)", STATE, x -> x.up(3, 2));
         for (int k = 0; k < 8; k++) {
             int slot = k;
-            refused(where, RefusedTest::house, "up(0, " + k + ")", STATE, x -> x.up(0, slot));
-            refused(where, RefusedTest::house, "up(1, " + k + ")", STATE, x -> x.up(1, slot));
+            refused(where, Houses::house, "up(0, " + k + ")", STATE, x -> x.up(0, slot));
+            refused(where, Houses::house, "up(1, " + k + ")", STATE, x -> x.up(1, slot));
         }
-        BedHouse x = house();
+        BedHouse x = Houses.house();
         DUE.is("but this act may be", 1, x.up(2, 2 + 4));
     }
 
@@ -308,7 +223,7 @@ public final class RefusedTest {
 
     private static void imagesGone() {
         Maker maker = () -> {
-            BedHouse x = house();
+            BedHouse x = Houses.house();
             x.house();
             return x;
         };
@@ -326,10 +241,10 @@ public final class RefusedTest {
     private static void full() {
         for (int n = 1; n <= 8; n++) {
             int bytes = n;
-            refused("a full text", RefusedTest::spent, "type(x, " + n + ")", FULL,
+            refused("a full text", Houses::spent, "type(x, " + n + ")", FULL,
                 x -> x.type(0x3b3b3b3b3b3b3b3bL, bytes));
             Maker nearlyFull = () -> {
-                BedHouse x = house();
+                BedHouse x = Houses.house();
                 Due.write(x, " ".repeat(201 - 7 - bytes));
                 return x;
             };
@@ -338,8 +253,8 @@ public final class RefusedTest {
         }
         for (int hour = 0; hour < 8; hour++) {
             int h = hour;
-            refused("eight clues", RefusedTest::spent, "clue(" + h + ", 0)", FULL, x -> x.clue(h, 0));
-            refused("eight clues", RefusedTest::spent, "clue(" + h + ", 1)", FULL, x -> x.clue(h, 1));
+            refused("eight clues", Houses::spent, "clue(" + h + ", 0)", FULL, x -> x.clue(h, 0));
+            refused("eight clues", Houses::spent, "clue(" + h + ", 1)", FULL, x -> x.clue(h, 1));
         }
     }
 
@@ -351,7 +266,7 @@ public final class RefusedTest {
         for (int i = 0; i < texts.length; i++) {
             String text = texts[i];
             Maker maker = () -> {
-                BedHouse x = house();
+                BedHouse x = Houses.house();
                 Due.write(x, text);
                 return x;
             };

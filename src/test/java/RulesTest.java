@@ -5,6 +5,8 @@ import java.lang.reflect.Modifier;
 import java.nio.charset.StandardCharsets;
 import java.nio.file.Files;
 import java.nio.file.Path;
+import java.util.ArrayList;
+import java.util.List;
 import java.util.Set;
 import java.util.TreeSet;
 import java.util.regex.Pattern;
@@ -13,6 +15,7 @@ import java.util.regex.Pattern;
 public final class RulesTest {
     private static final Due DUE = new Due("RulesTest");
     private static final Path SOURCE = Path.of("src/main/java/BedHouse.java");
+    private static final Path DOCUMENT = Path.of("../shared/DOC.md");
 
     private static final String[] FACE = {
         "type(long,int)", "clear()", "house()", "panel(int,int)", "slot(int,int)", "told(int)", "beam(int)",
@@ -24,6 +27,10 @@ public final class RulesTest {
         "\\bthrow\\b", "\\btry\\b", "\\bcatch\\b", "\\bsynchronized\\b", "\\bassert\\b", "->", "::",
         "\\bimport\\b", "\\bpackage\\b", "\\bprotected\\b", "\\bvar\\b", "Exact\\(", "\\bSystem\\.(?!arraycopy)",
         "\\bThread\\b", "\\bRandom\\b", "\\bequals\\s*\\(", "\\bhashCode\\b", "\\btoString\\b", "\\bstatic\\s*\\{"};
+
+    // What the interface says ahead of which call.
+    private static final String[] HEADINGS = {"type:the house", "down:acts and nights",
+        "fewest:from this house to that", "clue:a letter", "mark:kinds, images"};
 
     public static void main(String[] args) throws IOException {
         face();
@@ -39,6 +46,7 @@ public final class RulesTest {
         }
         methodLengths(code);
         nothingIsMadeByCalls(code);
+        faceOfTheDocument();
         DUE.close();
     }
 
@@ -64,6 +72,37 @@ public final class RulesTest {
             constants.equals(Set.of("BAD", "STATE", "FULL", "NONE", "NO")));
         DUE.is("constructors", 1, BedHouse.class.getDeclaredConstructors().length);
         DUE.holds("final", Modifier.isFinal(BedHouse.class.getModifiers()));
+    }
+
+    /** The document's lines of constants and calls, and its headings of them, stand in the source in their order. */
+    private static void faceOfTheDocument() throws IOException {
+        List<String> due = new ArrayList<>();
+        boolean inside = false;
+        for (String line : Files.readAllLines(DOCUMENT)) {
+            if (line.startsWith("```")) {
+                inside = line.equals("```java");
+            } else if (inside && line.matches("    public .*;")) {
+                headingAhead(line, due);
+                due.add(line.contains(" static ") ? line : line.replace(";", " {"));
+            }
+        }
+        DUE.is("constants, the constructor, calls and headings", 2 + 1 + FACE.length + HEADINGS.length, due.size());
+        List<String> source = Files.readAllLines(SOURCE);
+        int at = 0;
+        for (String line : due) {
+            int found = source.subList(at, source.size()).indexOf(line);
+            DUE.holds("in its place: " + line, found >= 0);
+            at += Math.max(0, found);
+        }
+    }
+
+    private static void headingAhead(String line, List<String> due) {
+        for (String heading : HEADINGS) {
+            String call = heading.substring(0, heading.indexOf(':'));
+            if (line.contains(" " + call + "(")) {
+                due.add("    // ---- " + heading.substring(call.length() + 1) + ".");
+            }
+        }
     }
 
     private static String signature(Method method) {
